@@ -12,6 +12,8 @@ public final class PoliciesTest {
         promise12IsReferenced();
         promise13ListOf();
         promise13AdaptiveDrops();
+        promise13AsManyAsTheTarget();
+        promise13OrderOfLists();
         promise14ListSize();
         promise15Target();
         promise16Prefetches();
@@ -200,14 +202,40 @@ public final class PoliciesTest {
         lists("a page of B2, with T1 longer than the target", lab, 2, 2, 3, 0);
         Touching.touchAll(lab, 4);
         lists("a new page, with T1 empty", lab, 2, 4, 3, 1);
-        // T1 3, B2 1: the target falls from 2 to 1, as many as T1 has, and 3 goes for 1 is in B2.
-        Swapmere tie = Touching.with(2, 8, 1, 2, 1, 3, 2, 3, 1);
-        CHECK.due("13: listOf(1) after a touch in B2", 2, () -> tie.listOf(1));
         for (int page : Check.outside(0, 63)) {
             CHECK.due("13: listOf(" + page + ")", Check.ARGUMENT, () -> lab.listOf(page));
         }
         CHECK.due("13: listOf(63)", 0, () -> lab.listOf(63));
         CHECK.due("13: listOf(0)", 0, () -> lab.listOf(0));
+    }
+
+    private static void promise13AsManyAsTheTarget() {
+        // T1 3, T2 4 and 1, B2 2, target 2: it falls to 1, and 3 goes, for 2 is in B2.
+        Swapmere inB2 = Touching.with(3, 8, 2, 4, 2, 1, 3, 4, 1, 2);
+        lists("as many as the target, a page of B2", inB2, 2, 2, 3, 2);
+        // T1 2, T2 1, B1 3: the target grows to 1, and 1 goes.
+        Swapmere inB1 = Touching.with(2, 8, 1, 3, 1, 2, 3);
+        lists("as many as the target, a page of B1", inB1, 4, 1, 2, 0);
+        // T1 3, T2 2, B2 1, target 1: 2 goes.
+        Swapmere fresh = Touching.with(2, 8, 1, 2, 1, 3, 2, 4);
+        lists("as many as the target, a new page", fresh, 4, 4, 1, 1);
+        // T1 4, T2 2, B1 5, B2 3, target 1: 5 is dropped, and 2 goes.
+        Swapmere full = Touching.with(2, 8, 3, 1, 3, 1, 5, 2, 3, 2, 4, 6);
+        lists("as many as the target, T1 and B1 full", full, 0, 4, 4, 1, 0, 1);
+        // T2 2, B2 1, target 1, then T1 3, B2 2: as many in T1 as the target and as m.
+        Swapmere one = Touching.with(1, 8, 1, 1, 2, 1, 2, 3);
+        CHECK.due("10: victim(2) of a full T1 as long as the target", 3, () -> one.victim(2));
+        one.touch(4);
+        lists("as many as the target and m", one, 0, 4, 0, 1);
+    }
+
+    private static void promise13OrderOfLists() {
+        Swapmere again = Touching.with(2, 8, 1, 2, 1, 2, 1);
+        CHECK.due("14: a page of T2 stays there once", 2, () -> again.listSize(2));
+        again.touch(3);
+        lists("a page of T2 goes to its most recent end", again, 2, 4, 1, 0);
+        Swapmere left = Touching.with(2, 8, 1, 2, 1, 3, 2, 1);
+        sizes("a page leaves B2", left, 0, 2, 1, 0);
     }
 
     private static void lists(String when, Swapmere lab, int... numbers) {
@@ -256,13 +284,14 @@ public final class PoliciesTest {
     }
 
     private static void promise15Target() {
-        Swapmere lab = Touching.with(2, 8);
-        int[] pages = {1, 2, 1, 3, 2, 1, 3, 2};
-        int[] targets = {0, 0, 0, 0, 1, 0, 1, 0};
-        for (int i = 0; i < pages.length; i++) {
-            lab.touch(pages[i]);
-            CHECK.due("15: target() after touch " + i, targets[i], lab::target);
-        }
+        targets(1, new int[] {1, 1, 2, 1, 2}, 0, 0, 0, 0, 1);
+        targets(2, new int[] {1, 2, 1, 3, 2, 1, 3, 2}, 0, 0, 0, 0, 1, 0, 1, 0);
+        // At the end B1 has 6, B2 has 1 and 3: the target would grow by 2, but m is 3.
+        targets(3, new int[] {5, 3, 1, 1, 3, 4, 6, 4, 2, 5, 4, 6},
+            0, 0, 0, 0, 0, 0, 0, 1, 1, 3, 2, 3);
+        // At the end B1 has 6 and 1, B2 has 4: the target falls by 2.
+        targets(4, new int[] {5, 7, 2, 4, 4, 6, 5, 1, 7, 3, 2, 7, 5, 4},
+            0, 0, 0, 0, 0, 0, 1, 1, 2, 2, 4, 3, 2, 0);
         // B1 has 13, B2 has 10, 11, 12: the target grows by 3 at once, then 13 is in B1 no more.
         Swapmere fast = Touching.with(4, 8, 10, 10, 11, 11, 12, 12, 13, 14, 14, 15, 15, 16, 16, 17, 17);
         CHECK.due("15: the first target", 0, fast::target);
@@ -272,19 +301,15 @@ public final class PoliciesTest {
         CHECK.due("15: the target grows by a quotient", 3, fast::target);
         fast.touch(12);
         CHECK.due("15: the target falls by one at least", 2, fast::target);
-        CHECK.due("15: the target is m at most", true, () -> targetStaysWithin(1, 2));
-        CHECK.due("15: the target is m at most", true, () -> targetStaysWithin(2, 3));
     }
 
-    /** Touches few pages in turn, some twice, so that pages come from B1 and B2 again and again. */
-    private static boolean targetStaysWithin(int frames, int stride) {
+    private static void targets(int frames, int[] pages, int... targets) {
         Swapmere lab = Touching.with(frames, 8);
-        boolean within = true;
-        for (int i = 0; i < 390; i++) {
-            lab.touch((i * stride + i / 3) % (2 * frames + 1));
-            within &= lab.target() >= 0 && lab.target() <= frames;
+        for (int i = 0; i < pages.length; i++) {
+            lab.touch(pages[i]);
+            CHECK.due("15: target() of " + frames + " frames after touch " + i, targets[i],
+                lab::target);
         }
-        return within;
     }
 
     private static void promise16Prefetches() {

@@ -70,6 +70,21 @@ public final class TouchesTest {
         CHECK.due("2: steps do not go across begin", 0, strided::prefetches);
         strided.touch(4);
         CHECK.due("2: two touches after begin make no stride", 0, strided::prefetches);
+        // 16 and 0 are prefetched, and not touched before begin.
+        for (int[] pages : new int[][] {{10, 12, 14, 16}, {3, 2, 1, 0}}) {
+            Swapmere awaiting = Touching.with(4, 8, pages[0], pages[1], pages[2]);
+            awaiting.begin(4, 8);
+            Touching.touchAll(awaiting, pages[3], pages[3]);
+            CHECK.due("2: prefetches before begin are not useful behind it", 0,
+                awaiting::usefulPrefetches);
+        }
+        // T1 3, T2 2, B2 1, target 1.
+        Swapmere adapted = Touching.with(2, 8, 1, 2, 1, 3, 2);
+        adapted.begin(2, 8);
+        CHECK.due("2: begin sets the target to 0", 0, adapted::target);
+        CHECK.due("2: begin empties T1", 0, () -> adapted.listOf(3));
+        CHECK.due("2: begin empties T2", 0, () -> adapted.listOf(2));
+        CHECK.due("2: begin empties B2", 0, () -> adapted.listOf(1));
         Swapmere full = Touching.with(4, 8);
         Touching.touchTimes(full, 7, 400);
         full.begin(4, 8);

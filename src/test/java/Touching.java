@@ -73,6 +73,10 @@ final class Touching {
     }
 
     private static void note(StringBuilder all, String what, Check.Call call) {
-        all.append(what).append(": ").append(Check.answerOf(call)).append('\n');
+        String answer = Check.answerOf(call);
+        if (answer.startsWith("throws ") && !answer.equals(Check.NO_ELEMENT)) {
+            throw new AssertionError(what + " " + answer);
+        }
+        all.append(what).append(": ").append(answer).append('\n');
     }
 }
