@@ -66,14 +66,20 @@ public final class PoliciesTest {
 
     private static void held(String what, Swapmere lab, int policy, int... pages) {
         for (int page = 0; page < 64; page++) {
-            boolean want = false;
-            for (int one : pages) {
-                want |= one == page;
-            }
+            boolean want = isAmong(pages, page);
             int asked = page;
             CHECK.due("8: holds(" + policy + ", " + page + "), " + what, want,
                 () -> lab.holds(policy, asked));
         }
+    }
+
+    private static boolean isAmong(int[] pages, int page) {
+        for (int one : pages) {
+            if (one == page) {
+                return true;
+            }
+        }
+        return false;
     }
 
     private static void promise9Held() {
@@ -179,10 +185,7 @@ public final class PoliciesTest {
 
     private static void referenced(String when, Swapmere lab, int... pages) {
         for (int page = 0; page < 64; page++) {
-            boolean want = false;
-            for (int one : pages) {
-                want |= one == page;
-            }
+            boolean want = isAmong(pages, page);
             int asked = page;
             CHECK.due("12: isReferenced(" + page + ") " + when, want,
                 () -> lab.isReferenced(asked));
