@@ -27,6 +27,7 @@ public final class RefusalsTest {
     }
 
     public static void main(String[] args) {
+        statesAreOfManyKinds();
         for (State state : State.ALL) {
             for (Argument argument : arguments()) {
                 insideOfItsRange(state, argument);
@@ -41,6 +42,23 @@ public final class RefusalsTest {
         noSuchThingInAnotherLaboratory();
         argumentsGoFirst();
         CHECK.end();
+    }
+
+    /** A refused call can only be seen to change what there is. */
+    private static void statesAreOfManyKinds() {
+        Swapmere lab = State.IN_USE.maker.get();
+        for (int list = 1; list <= 4; list++) {
+            int asked = list;
+            CHECK.due("list " + list + " in use has pages", true, () -> lab.listSize(asked) > 0);
+        }
+        CHECK.due("the hand is between its ends", true, () -> lab.hand() > 0 && lab.hand() < 3);
+        CHECK.due("the target is between its ends", true,
+            () -> lab.target() > 0 && lab.target() < 4);
+        CHECK.due("some prefetches were useful, others not", true,
+            () -> lab.usefulPrefetches() > 0 && lab.usefulPrefetches() < lab.prefetches());
+        CHECK.due("there are refaults", true, () -> lab.refaults(400) > lab.refaults(0));
+        CHECK.due("nearly full", 399, () -> State.NEARLY_FULL.maker.get().touches());
+        CHECK.due("full", 400, () -> State.FULL.maker.get().touches());
     }
 
     private static List<Argument> arguments() {
@@ -191,6 +209,11 @@ public final class RefusalsTest {
     }
 
     private static void noSuchThingInAnotherLaboratory() {
+        for (int policy = 0; policy < 4; policy++) {
+            int asked = policy;
+            refused(State.EMPTY_FRAMES, "10: victim(" + policy + ")", Check.NO_ELEMENT,
+                lab -> lab.victim(asked));
+        }
         // Pages 7 and 63 have been held once or never, so that there was no refault on them.
         refused(State.IN_USE, "19: refaultDistance(7)", Check.NO_ELEMENT,
             lab -> lab.refaultDistance(7));

@@ -6,10 +6,13 @@ import java.util.function.Supplier;
 final class State {
     static final State EMPTY = new State("a new object", Swapmere::new);
     static final State EMPTY_AGAIN = new State("a laboratory begun again", State::begunAgain);
+    static final State EMPTY_FRAMES = new State("one with empty frames",
+        () -> Touching.with(6, 3, 1, 20, 20, 63, 1));
     static final State IN_USE = new State("a laboratory in use", State::inUse);
     static final State NEARLY_FULL = new State("one of 399 touches", () -> withTouches(399));
     static final State FULL = new State("one of 400 touches", () -> withTouches(400));
-    static final List<State> ALL = List.of(EMPTY, EMPTY_AGAIN, IN_USE, NEARLY_FULL, FULL);
+    static final List<State> ALL =
+        List.of(EMPTY, EMPTY_AGAIN, EMPTY_FRAMES, IN_USE, NEARLY_FULL, FULL);
 
     final String name;
     final Supplier<Swapmere> maker;

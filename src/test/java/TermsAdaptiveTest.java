@@ -45,7 +45,7 @@ public final class TermsAdaptiveTest {
     // "if T1 has a page, and has more pages than the target, ... the least recent page of T1 goes
     // to the most recent end of B1"
     private static void replaceWithMorePagesThanTheTarget() {
-        after(2, 1, 1, 2).are("2 | 1 |  |  | 0").then(3).are("3 | 1 | 2 |  | 0");
+        after(2, 1, 1, 2).are("2 | 1 |  |  | 0").wouldEvict(2).then(3).are("3 | 1 | 2 |  | 0");
         // A page of B1: the target is 1 when the page is replaced, and T1 has two.
         after(3, 1, 1, 2, 3, 4).are("3 4 | 1 | 2 |  | 0").then(2).are("4 | 1 2 | 3 |  | 1");
         // A page of B2, the target stays 0.
@@ -61,12 +61,17 @@ public final class TermsAdaptiveTest {
         after(2, 1, 1, 2, 3).are("3 | 1 | 2 |  | 0").then(2).are("3 | 2 |  | 1 | 1");
         // A page in no list, with room in T1 and B1.
         after(2, 1, 1, 2, 3, 2).are("3 | 2 |  | 1 | 1").then(4).are("3 4 |  |  | 1 2 | 1");
+        // A page in no list, with T1 and B1 full: 5 is dropped, and T2 loses its page.
+        after(2, 3, 1, 3, 1, 5, 2, 3, 2, 4).are("4 | 2 | 5 | 3 | 1").then(6)
+            .are("4 6 |  |  | 2 3 | 1");
         // A page in no list, with all four lists full.
-        after(2, 1, 1, 2, 2, 3, 4, 3).are("4 | 3 |  | 1 2 | 1").then(5).are("4 5 |  |  | 2 3 | 1");
+        after(2, 1, 1, 2, 2, 3, 4, 3).are("4 | 3 |  | 1 2 | 1").wouldEvict(3)
+            .then(5).are("4 5 |  |  | 2 3 | 1");
     }
 
     private static void replaceWithFewerPagesThanTheTarget() {
-        after(3, 1, 1, 2, 3, 4, 2, 3).are("4 | 2 3 |  | 1 | 2").then(5).are("4 5 | 3 |  | 1 2 | 2");
+        after(3, 1, 1, 2, 3, 4, 2, 3).are("4 | 2 3 |  | 1 | 2").wouldEvict(2)
+            .then(5).are("4 5 | 3 |  | 1 2 | 2");
         // A page of B1: the target grows from 1 to 2.
         after(3, 1, 1, 2, 3, 4, 2).are("4 | 1 2 | 3 |  | 1").then(3).are("4 | 2 3 |  | 1 | 2");
         // A page of B2: the target falls from 3 to 2, and T1 has one.
@@ -76,7 +81,7 @@ public final class TermsAdaptiveTest {
 
     // "if T1 has a page": without one, T2 loses its least recent page, whatever the target
     private static void replaceWithoutAPageInT1() {
-        after(2, 1, 1, 2, 2).are(" | 1 2 |  |  | 0").then(3).are("3 | 2 |  | 1 | 0");
+        after(2, 1, 1, 2, 2).are(" | 1 2 |  |  | 0").wouldEvict(1).then(3).are("3 | 2 |  | 1 | 0");
         // A page of B2 with the target 0: T1 has as many pages as the target, but none.
         after(2, 1, 1, 2, 2, 3, 3).are(" | 2 3 |  | 1 | 0").then(1).are(" | 1 3 |  | 2 | 0");
         after(3, 1, 1, 2, 3, 4, 2, 3, 4).are(" | 2 3 4 |  | 1 | 2").then(1).are(" | 1 3 4 |  | 2 | 1");
@@ -181,7 +186,7 @@ public final class TermsAdaptiveTest {
     // in all lists: nothing is dropped or replaced.
     private static void pageInNoListWithRoom() {
         after(1).are(" |  |  |  | 0").then(0).are("0 |  |  |  | 0");
-        after(2, 63).are("63 |  |  |  | 0").then(0).are("0 63 |  |  |  | 0");
+        after(2, 63).are("63 |  |  |  | 0").wouldEvict(Check.NO_ELEMENT).then(0).are("0 63 |  |  |  | 0");
         after(3, 1, 1, 2).are("2 | 1 |  |  | 0").then(3).are("2 3 | 1 |  |  | 0");
         after(16, 1, 2, 3, 4, 5, 6, 7, 8, 9, 10, 11, 12, 13, 14, 15)
             .are("1 2 3 4 5 6 7 8 9 10 11 12 13 14 15 |  |  |  | 0")
@@ -190,7 +195,10 @@ public final class TermsAdaptiveTest {
 
     // "if T1 has m pages, its least recent page is dropped from all lists"
     private static void pageInNoListWithT1Full() {
-        after(2, 1, 2).are("1 2 |  |  |  | 0").then(3).are("2 3 |  |  |  | 0");
+        after(2, 1, 2).are("1 2 |  |  |  | 0").wouldEvict(1).then(3).are("2 3 |  |  |  | 0");
+        // The target is m, too, so that by it T1 would lose none.
+        after(1, 1, 1, 2, 1, 2, 3).are("3 |  |  | 2 | 1").wouldEvict(3).then(4)
+            .are("4 |  |  | 2 | 1").wouldEvict(4);
         // All four lists have 2 * m pages, but B2 drops none.
         after(2, 1, 1, 2, 3, 2, 4).are("3 4 |  |  | 1 2 | 1").then(5).are("4 5 |  |  | 1 2 | 1");
         after(16, 1, 2, 3, 4, 5, 6, 7, 8, 9, 10, 11, 12, 13, 14, 15, 16)
@@ -287,6 +295,11 @@ public final class TermsAdaptiveTest {
             CHECK.due(when + ": pages held", numberOfPages(parts[0]) + numberOfPages(parts[1]),
                 () -> lab().held(2));
             CHECK.due(when + ": other pages held", "", () -> pagesHeldElsewhere(lab()));
+            return this;
+        }
+
+        Lists wouldEvict(Object page) {
+            CHECK.due(when + ": victim", page, () -> lab().victim(2));
             return this;
         }
 

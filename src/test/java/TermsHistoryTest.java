@@ -17,6 +17,7 @@ public final class TermsHistoryTest {
         workingSetWithFewerTouchesThanTheWindow();
         workingSetsOfEveryWindow();
         averageOfOneAndOfAllTouches();
+        beginForgetsRefaultsAndWorkingSets();
         faultsWithOneAndSixteenFrames();
         faultsWithAsManyFramesAsThereAre();
         bestWithOneAndSixteenFrames();
@@ -204,6 +205,20 @@ public final class TermsHistoryTest {
         // 1 to 64 for the first 64 touches, then always 64.
         float sum = 65 * 32 + 336 * 64;
         CHECK.due("400 touches", sum / 400.0f, full::averageWorkingSet);
+    }
+
+    // "Starts again without touches."
+    private static void beginForgetsRefaultsAndWorkingSets() {
+        Swapmere lab = Touching.with(1, 8, 1, 2, 1, 2, 3);
+        lab.begin(1, 8);
+        CHECK.due("a page held before begin", 15, () -> lab.touch(3));
+        CHECK.due("a page evicted before begin", 15, () -> lab.touch(1));
+        CHECK.due("no refault after begin", 0, () -> lab.refaults(400));
+        CHECK.due("no distance from before begin", Check.NO_ELEMENT, () -> lab.refaultDistance(2));
+        CHECK.due("a working set of one", 1, () -> lab.workingSet(0));
+        CHECK.due("two working sets of 3 pages", 1.5f, lab::averageWorkingSet);
+        CHECK.due("faults of sixteen frames after begin", 2, () -> lab.faultsWith(16));
+        CHECK.due("the best faults after begin", 2, () -> lab.bestFaults(16));
     }
 
     private static void faultsWithOneAndSixteenFrames() {

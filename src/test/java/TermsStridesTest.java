@@ -20,6 +20,7 @@ public final class TermsStridesTest {
         usefulBeforeItsEviction();
         usefulOnce();
         usefulAgainAfterAnotherPrefetch();
+        beginForgetsWhatWasPrefetched();
         CHECK.end();
     }
 
@@ -169,9 +170,11 @@ public final class TermsStridesTest {
         // Touched as the next to go, and touched just after it went.
         after(4, 1, 2, 3, 20, 30, 50, 4).has("4 20 30 50", 1, 1);
         after(4, 1, 2, 3, 20, 30, 50, 9, 4).has("4 9 30 50", 1, 0);
+        after(4, 1, 2, 3, 20, 30, 50, 9, 4, 4).has("4 9 30 50", 1, 0);
         // Evicted by a prefetch: 4 went for 0.
         after(3, 1, 2, 3, 2, 1).has("0 1 2", 2, 0);
         after(3, 1, 2, 3, 2, 1, 4).has("0 1 4", 2, 0);
+        after(3, 1, 2, 3, 2, 1, 4, 4).has("0 1 4", 2, 0);
         after(3, 1, 2, 3, 2, 1, 0).has("0 1 2", 2, 1);
     }
 
@@ -189,6 +192,20 @@ public final class TermsStridesTest {
         after(2, 1, 2, 3, 20, 40, 1, 2, 3, 4).has("4 5", 3, 1);
         // 4 was useful, and is useful again.
         after(2, 1, 2, 3, 4, 20, 40, 1, 2, 3, 4).has("4 5", 4, 2);
+    }
+
+    // "Starts again without touches."
+    private static void beginForgetsWhatWasPrefetched() {
+        // 0, 4 and 63 are prefetched, and not touched before begin.
+        for (int[] pages : new int[][] {{3, 2, 1, 0}, {1, 2, 3, 4}, {60, 61, 62, 63}}) {
+            Swapmere lab = Touching.with(4, 8, pages[0], pages[1], pages[2]);
+            CHECK.due("prefetches before begin", 1, lab::prefetches);
+            lab.begin(4, 8);
+            CHECK.due("prefetches after begin", 0, lab::prefetches);
+            CHECK.due("the first touch after begin", 15, () -> lab.touch(pages[3]));
+            CHECK.due("the second touch after begin", 0, () -> lab.touch(pages[3]));
+            CHECK.due("useful prefetches after begin", 0, lab::usefulPrefetches);
+        }
     }
 
     private static Strides after(int frames, int... pages) {
