@@ -57,6 +57,7 @@ public final class HindsightTest {
         }
     }
 
+    // "Its faults are the fewest that any replacement can have."
     private static void promise23BestFaultsAreTheFewest() {
         Random random = new Random(23);
         for (int run = 0; run < 60; run++) {

@@ -106,6 +106,7 @@ public final class RefusalsTest {
         }
     }
 
+    // "IllegalArgumentException is thrown for an argument out of range"
     private static void outsideOfItsRange(State state, Argument argument) {
         for (int number : Check.outside(argument.low, argument.high)) {
             refused(state, argument.call + " of " + number, Check.ARGUMENT,
@@ -171,6 +172,7 @@ public final class RefusalsTest {
         }
     }
 
+    // "IllegalStateException if something is not possible now"
     private static void moreThan400Touches() {
         for (int page : new int[] {0, 62, 63}) {
             refused(State.FULL, "3: touch(" + page + ")", Check.STATE, lab -> lab.touch(page));
@@ -187,6 +189,7 @@ public final class RefusalsTest {
         CHECK.due("4: the 400th touch", 0, () -> State.NEARLY_FULL.maker.get().touchRun(62, 0, 1));
     }
 
+    // "NoSuchElementException if there is no such thing"
     private static void noSuchThingInAnEmptyLaboratory() {
         for (State state : List.of(State.EMPTY, State.EMPTY_AGAIN)) {
             for (int policy = 0; policy < 4; policy++) {
@@ -221,7 +224,7 @@ public final class RefusalsTest {
             lab -> lab.refaultDistance(63));
     }
 
-    /** IllegalArgumentException goes first, then IllegalStateException. */
+    // "If several apply, IllegalArgumentException goes first, then IllegalStateException."
     private static void argumentsGoFirst() {
         for (int page : Check.outside(0, 63)) {
             first(State.FULL, "3: touch(" + page + ") too many", lab -> lab.touch(page));
@@ -259,6 +262,7 @@ public final class RefusalsTest {
         }
     }
 
+    // "A call that throws an exception changes nothing."
     private static void refused(State state, String what, String want, Consumer<Swapmere> call) {
         String where = what + " in " + state.name;
         CHECK.dueOf(where, want, () -> call.accept(state.maker.get()));

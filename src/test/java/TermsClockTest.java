@@ -5,6 +5,7 @@ public final class TermsClockTest {
     private static final Check CHECK = new Check("TermsClockTest");
 
     public static void main(String[] args) {
+        framesAreNumbered0ToMLess1();
         handAtFrame0AtFirst();
         emptyFrameWithTheLowestNumber();
         touchOfAHeldPageSetsItsBit();
@@ -17,6 +18,26 @@ public final class TermsClockTest {
         victimIsAskedWithoutMovingTheHand();
         bitOfAPageNotHeld();
         CHECK.end();
+    }
+
+    // "The frames are numbered 0 to m - 1; each is empty, or has a page and a reference bit."
+    private static void framesAreNumbered0ToMLess1() {
+        for (int frames = 1; frames <= 16; frames++) {
+            Swapmere lab = Touching.with(frames, 8);
+            for (int used = 1; used <= frames; used++) {
+                int due = used;
+                lab.touch(used);
+                CHECK.due(used + " of " + frames + " frames have a page", due, () -> lab.held(1));
+                CHECK.due(used + " of " + frames + " frames have a bit", true,
+                    () -> lab.isReferenced(due));
+            }
+            // Each fault puts a page into one frame more, past which the hand goes.
+            for (int fault = 1; fault <= 2 * frames; fault++) {
+                lab.touch(frames + fault);
+                CHECK.due("the hand of " + frames + " frames behind eviction " + fault,
+                    fault % frames, lab::hand);
+            }
+        }
     }
 
     // "The hand is at frame 0 at first."

@@ -1,10 +1,12 @@
 import java.util.Arrays;
+import java.util.Random;
 
 /** The sentences of the document's terms about policy 3, least recently used with strides. */
 public final class TermsStridesTest {
     private static final Check CHECK = new Check("TermsStridesTest");
 
     public static void main(String[] args) {
+        heldAndEvictedAsByPolicy0();
         atLeastThreeTouches();
         stepsAreCountedAcrossRunsButNotAcrossBegin();
         sameStepTwice();
@@ -22,6 +24,27 @@ public final class TermsStridesTest {
         usefulAgainAfterAnotherPrefetch();
         beginForgetsWhatWasPrefetched();
         CHECK.end();
+    }
+
+    // "Pages are held and evicted as by policy 0", which shows where nothing is prefetched
+    private static void heldAndEvictedAsByPolicy0() {
+        for (int frames = 1; frames <= 16; frames++) {
+            Random random = new Random(frames);
+            Swapmere lab = Touching.with(frames, 8);
+            for (int i = 0; i < 60; i++) {
+                int page = random.nextInt(2 * frames + 2);
+                // Two equal pages make a step of 0, so that no two steps are equal but those of 0.
+                lab.touch(page);
+                lab.touch(page);
+                String when = frames + " frames after two touches of " + page + ", the " + i + "th";
+                CHECK.due(when + ": pages held", Touching.pagesThat(one -> lab.holds(0, one)),
+                    () -> Touching.pagesThat(one -> lab.holds(3, one)));
+                CHECK.due(when + ": victim", Check.answerOf(() -> lab.victim(0)),
+                    () -> lab.victim(3));
+            }
+            CHECK.due(frames + " frames: faults", lab.faults(0), () -> lab.faults(3));
+            CHECK.due(frames + " frames: prefetches", 0, lab::prefetches);
+        }
     }
 
     // "if there are at least three touches"
